@@ -378,9 +378,7 @@ public final class RoadsWithTides {
         ways.spread(from, 0, 0);
         int longest = from;
         for (int place = 0; place < land.places; place++) {
-            boolean longer = ways.soon[place] > ways.soon[longest];
-            boolean asLongAhead = ways.soon[place] == ways.soon[longest] && place < longest;
-            if (ways.soon[place] <= n && (longer || asLongAhead)) {
+            if (ways.soon[place] <= n && ways.soon[place] > ways.soon[longest]) {
                 longest = place;
             }
         }
@@ -1866,17 +1864,17 @@ public final class RoadsWithTides {
         int goRound(int from, int calls) {
             home = from;
             bestBack = NEVER;
-            callOn(0, from, 0, calls);
+            callOn(this, 0, from, 0, calls);
             return bestBack;
         }
 
         /** Orders are tried from the least on, so that of as soon ones the first stays. */
-        private void callOn(int depth, int place, int time, int calls) {
-            spread(place, time, 0);
+        private static void callOn(Ways ways, int depth, int place, int time, int calls) {
+            ways.spread(place, time, 0);
             if (calls == 0) {
-                if (soon[home] < bestBack) {
-                    bestBack = soon[home];
-                    System.arraycopy(order, 0, bestOrder, 0, order.length);
+                if (ways.soon[ways.home] < ways.bestBack) {
+                    ways.bestBack = ways.soon[ways.home];
+                    System.arraycopy(ways.order, 0, ways.bestOrder, 0, MOST_CALLS);
                 }
                 return;
             }
@@ -1884,12 +1882,12 @@ public final class RoadsWithTides {
                 return;
             }
             int base = depth * MOST_PLACES;
-            System.arraycopy(soon, 0, soonByDepth, base, MOST_PLACES);
-            for (int next = 0; next < land.places; next++) {
-                int when = soonByDepth[base + next];
-                if ((calls >> next & 1) != 0 && when < bestBack && when <= FAR) {
-                    order[depth] = next;
-                    callOn(depth + 1, next, when, calls & ~(1 << next));
+            System.arraycopy(ways.soon, 0, ways.soonByDepth, base, MOST_PLACES);
+            for (int next = 0; next < ways.land.places; next++) {
+                int when = ways.soonByDepth[base + next];
+                if ((calls >> next & 1) != 0 && when < ways.bestBack && when <= FAR) {
+                    ways.order[depth] = next;
+                    callOn(ways, depth + 1, next, when, calls & ~(1 << next));
                 }
             }
         }

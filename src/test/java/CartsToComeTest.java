@@ -89,6 +89,12 @@ public final class CartsToComeTest {
         Check.due("now", z.best(0, 0), 0);
         RoadsWithTides w = Check.made("p0;p0;rab1-40", "60*20+59*20", "a0");
         Check.due("not in 0 .. 60", w.best(0, 0), -2);
+        RoadsWithTides v = Check.made("p0;p0;rab1-20", "22*10+14*10", "a0");
+        v.pass(16);
+        Check.due("in 61", v.best(0, 0), -2);
+        v.pass(1);
+        Check.due("in 60", v.best(0, 0), 60);
+        Check.row("in 60", v, 0, 61);
     }
 
     private static void could() {

@@ -44,6 +44,12 @@ public final class MarksTest {
         Check.due("give or take 1", x.fits(1), 12);
         x.pass(40);
         Check.due("lookat is from NOW on", x.lookat(1) >= 40, true);
+        RoadsWithTides y = new RoadsWithTides();
+        y.mark(13, 8);
+        y.mark(25, 24);
+        y.mark(2, 18);
+        Check.due("lookat, not at NOW + 24 where there are 14", y.lookat(2), 0);
+        Check.row("lookat, not at NOW + 24 where there are 14", y, 13);
     }
 
     private static void refused() {

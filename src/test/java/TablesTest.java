@@ -70,6 +70,13 @@ public final class TablesTest {
         y.pass(31);
         Check.due("comes late", y.comes(0), 59);
         Check.row("comes late", y, 1);
+        RoadsWithTides z = Check.made("p1;p2;rab1-20", "22*10+14*10", "");
+        z.pass(99);
+        z.pass(11);
+        Check.due("comes in 121", z.comes(0), -2);
+        z.pass(1);
+        Check.due("comes in 120", z.comes(0), 120);
+        Check.row("comes in 120", z, 1);
         Check.tide(y, "2*0");
         Check.due("slack when it is still", y.slack(), 120);
         Check.row("slack when it is still", y, 0, 0);

@@ -86,6 +86,7 @@ public final class TextsTest {
         fault("ra", -3);
         fault("raa", -3);
         fault("rac", -3);
+        fault("rbb", -3);
         fault("rab", -4);
         fault("rab0-5", -4);
         fault("rabx", -4);

@@ -148,6 +148,11 @@ public final class TurnsTest {
     }
 
     private static void patienceAndChains() {
+        RoadsWithTides y = Check.made("p0;p0;rab9-10", "12*20", "a0");
+        y.pass(9);
+        y.out(0, 0);
+        y.pass(2);
+        Check.row("CUT for one TURN", y, 0, 1, 0);
         RoadsWithTides x = Check.made("p0;p0;rab9-10", "12*20", "a0*;a0");
         x.patience(1);
         x.pass(9);

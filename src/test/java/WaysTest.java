@@ -143,6 +143,11 @@ public final class WaysTest {
         Check.due("cut off by length", y.cutoff(0), 128);
         Check.due("latest by length", y.latest(0, 6, 120), 0);
         Check.due("latest by length", y.latest(0, 6, 119), -2);
+        Check.due("carrier back in 120", y.carrier(0, 8), 120);
+        Check.due("carrier back in 160", y.carrier(0, 16), -2);
+        Check.rule(y, "s+l*5");
+        Check.due("ways are without LOAD", y.soonest(0, 1), 1);
+        Check.due("ways are without LOAD, back", y.soonest(1, 0), 1);
     }
 
     private static boolean compare(Random random) {
