@@ -4,6 +4,7 @@ import java.util.NoSuchElementException;
 final class Check {
     private static int wrong = 0;
     private static int asked = 0;
+    private static String sentence = "";
 
     private Check() {
     }
@@ -12,11 +13,16 @@ final class Check {
         int ask();
     }
 
+    /** The sentence of the document that is tested from here on: it is told with what is wrong. */
+    static void sentence(String words) {
+        sentence = "[" + words + "] ";
+    }
+
     static void due(String call, long got, long want) {
         asked++;
         if (got != want) {
             wrong++;
-            System.out.println(call + " answered " + got + ", due is " + want);
+            System.out.println(sentence + call + " answered " + got + ", due is " + want);
         }
     }
 
@@ -29,7 +35,7 @@ final class Check {
         try {
             int got = asking.ask();
             wrong++;
-            System.out.println(call + " answered " + got + ", due is NoSuchElementException");
+            System.out.println(sentence + call + " answered " + got + ", due is NoSuchElementException");
         } catch (NoSuchElementException e) {
             // as it is due
         }
@@ -127,11 +133,18 @@ final class Check {
         return all.toString();
     }
 
+    /** All that can be seen but the ROW and how many can be undone. */
+    static String stateOf(RoadsWithTides x) {
+        String[] seen = seen(x).split(" ");
+        seen[10] = "";
+        return String.join(" ", seen);
+    }
+
     static void same(String what, String got, String want) {
         asked++;
         if (!got.equals(want)) {
             wrong++;
-            System.out.println(what + ": " + got + ", due is " + want);
+            System.out.println(sentence + what + ": " + got + ", due is " + want);
         }
     }
 

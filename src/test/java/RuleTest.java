@@ -4,11 +4,6 @@ import java.util.Random;
 public final class RuleTest {
     private static final String SIGNS = "suhlra0123456789()+-*/<>=--((";
 
-    private static String text;
-    private static int at;
-    private static int fault;
-    private static int[] values;
-
     public static void main(String[] args) {
         told();
         Random random = new Random(7);
@@ -78,109 +73,24 @@ public final class RuleTest {
         int steps = 1 + random.nextInt(9);
         int height = random.nextInt(100);
         RoadsWithTides x = Check.made("p" + low + ";p" + high + ";rab1-1;rab" + steps + "-" + height, "12*20", "");
-        text = rule.length() > 40 ? rule.substring(0, 40) : rule;
-        int want = 0;
-        values = new int[] {steps, high - low, height, 0, 1, low};
-        int there = Math.max(1, Math.min(20, whole()));
         if (rule.isEmpty()) {
             return;
         }
-        if (fault >= 0) {
-            want = -1 - fault;
+        String text = rule.length() > 40 ? rule.substring(0, 40) : rule;
+        int want = 0;
+        RuleReader up = new RuleReader(text, steps, high - low, height, 0, 1, low);
+        int there = Math.max(1, Math.min(20, up.value));
+        if (up.fault >= 0) {
+            want = -1 - up.fault;
         } else if (rule.length() > 40) {
             want = -41;
         }
         Check.due("rule " + rule, Check.rule(x, rule), want);
         if (want == 0) {
-            values = new int[] {steps, low - high, height, 0, 1, high};
-            int back = Math.max(1, Math.min(20, whole()));
+            RuleReader down = new RuleReader(text, steps, low - high, height, 0, 1, high);
+            int back = Math.max(1, Math.min(20, down.value));
             Check.due(rule + " there", x.road(1, 6), there);
             Check.due(rule + " back", x.road(1, 7), back);
         }
-    }
-
-    // A reader by descent; at the first fault it notes where and everything behind it is without meaning.
-
-    private static int whole() {
-        at = 0;
-        fault = -1;
-        int value = expression(0);
-        if (at < text.length()) {
-            failed();
-        }
-        return value;
-    }
-
-    private static void failed() {
-        if (fault < 0) {
-            fault = at;
-        }
-        at = text.length();
-    }
-
-    private static char peek() {
-        return at < text.length() ? text.charAt(at) : 0;
-    }
-
-    private static int expression(int depth) {
-        int left = sum(depth);
-        char sign = peek();
-        if (sign != '<' && sign != '>' && sign != '=') {
-            return left;
-        }
-        at++;
-        int right = sum(depth);
-        return (sign == '<' ? left < right : sign == '>' ? left > right : left == right) ? 1 : 0;
-    }
-
-    private static int sum(int depth) {
-        int value = product(depth);
-        while (peek() == '+' || peek() == '-') {
-            char sign = text.charAt(at++);
-            int right = product(depth);
-            value = sign == '+' ? value + right : value - right;
-        }
-        return value;
-    }
-
-    private static int product(int depth) {
-        int value = negated(depth);
-        while (peek() == '*' || peek() == '/') {
-            char sign = text.charAt(at++);
-            int right = negated(depth);
-            value = sign == '*' ? value * right : right == 0 ? 0 : value / right;
-        }
-        return value;
-    }
-
-    private static int negated(int depth) {
-        if (peek() == '-') {
-            at++;
-            return -negated(depth);
-        }
-        if (peek() == '(' && depth < 4) {
-            at++;
-            int value = expression(depth + 1);
-            if (peek() == ')') {
-                at++;
-            } else {
-                failed();
-            }
-            return value;
-        }
-        if (peek() >= '0' && peek() <= '9') {
-            int value = 0;
-            for (int i = 0; i < 3 && peek() >= '0' && peek() <= '9'; i++) {
-                value = 10 * value + text.charAt(at++) - '0';
-            }
-            return value;
-        }
-        int letter = "suhlra".indexOf(peek());
-        if (letter < 0) {
-            failed();
-            return 0;
-        }
-        at++;
-        return values[letter];
     }
 }

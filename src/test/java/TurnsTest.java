@@ -302,7 +302,7 @@ public final class TurnsTest {
             RoadsWithTides x = Check.made(FLATS, "12*20", "a0;b5*;c3");
             List<String> before = new ArrayList<>();
             for (int i = 0; i < 40; i++) {
-                String seen = stateOf(x);
+                String seen = Check.stateOf(x);
                 int cart = random.nextInt(3);
                 int kind = random.nextInt(7);
                 int answer = kind == 0 ? x.out(cart, random.nextInt(3))
@@ -320,21 +320,14 @@ public final class TurnsTest {
                 }
                 if (random.nextInt(8) == 0 && !before.isEmpty()) {
                     x.undo();
-                    Check.same("undone", stateOf(x), before.remove(before.size() - 1));
+                    Check.same("undone", Check.stateOf(x), before.remove(before.size() - 1));
                 }
                 Check.due("what can be undone", x.count(10), before.size());
             }
             while (!before.isEmpty()) {
                 x.undo();
-                Check.same("undone", stateOf(x), before.remove(before.size() - 1));
+                Check.same("undone", Check.stateOf(x), before.remove(before.size() - 1));
             }
         }
-    }
-
-    /** What is seen, but for how many can be undone. */
-    private static String stateOf(RoadsWithTides x) {
-        String[] seen = Check.seen(x).split(" ");
-        seen[10] = "";
-        return String.join(" ", seen);
     }
 }
