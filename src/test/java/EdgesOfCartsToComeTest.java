@@ -296,6 +296,11 @@ public final class EdgesOfCartsToComeTest {
         w.undo();
         w.pass(1);
         Check.due("four TURNS, from 1 on", w.best(0, 1), 29);
+        // THERE at 0, 1, then 59 .. 61, 119 .. 121: six TURNS from 1 on miss 114, from 59 on 57
+        RoadsWithTides v = Check.made("p0;p0;rab6-19", "60*20/30", "a0*");
+        v.pass(1);
+        Check.due("63 from setting out in 58", v.best(0, 0), 58);
+        Check.row("it is there in 121 from now", v, 57, 121);
     }
 
     private static void bestByLoad() {

@@ -280,6 +280,9 @@ public final class EdgesOfTextsTest {
         Check.due("a cart at `", Check.carts(x, "`1"), -1);
         noFlats("rca1-1", -2);
         noFlats("rac1-1", -3);
+        noFlats("r1-1", -2);
+        noFlats("ra1-1", -3);
+        noFlats("rb-1", -3);
         noCarts("c1", -1);
     }
 
@@ -651,8 +654,9 @@ public final class EdgesOfTextsTest {
         Check.sentence("Terms 1: < > = bind least (two; 1 or 0; not one behind the other)");
         String[] rules = {"(1<2)*5+2", "(2<2)*5+2", "(3<2)*5+2", "(1>2)*5+2", "(2>2)*5+2", "(3>2)*5+2", "(1=2)*5+2",
             "(2=2)*5+2", "(1+1<2*2)*5+2", "(1<1+1)*5+2", "(4/2=1+1)*5+2", "((1<2)<3)*5+2", "(1<(3<2))*5+2",
-            "(-1<0)*5+2", "(1<2)*5+(3>2)*6", "((1<2)<(2<1))*9+((2>1)>(1>2))*5"};
-        int[] takes = {7, 2, 2, 2, 2, 7, 2, 7, 7, 7, 7, 7, 2, 7, 11, 5};
+            "(-1<0)*5+2", "(1<2)*5+(3>2)*6", "((1<2)<(2<1))*9+((2>1)>(1>2))*5",
+            "(0>-1)*5+2", "(-1=-1)*5+2"};
+        int[] takes = {7, 2, 2, 2, 2, 7, 2, 7, 7, 7, 7, 7, 2, 7, 11, 5, 7, 7};
         for (int i = 0; i < rules.length; i++) {
             Check.due(rules[i], there(rules[i]), takes[i]);
         }
@@ -790,7 +794,7 @@ public final class EdgesOfTextsTest {
         Check.due("TURNS", x.road(0, 6), 11);
         Check.due("a wrong one", Check.rule(x, "9x"), -2);
         Check.due("TURNS", x.road(0, 6), 11);
-        for (String wrong : new String[] {"9*(2-(3", "9-", "-", "s+-", "((((1<2", "9-2)", "1<2<3", "s+-(", "(((((1"}) {
+        for (String wrong : new String[] {"9*(2-(3", "9-", "-", "s+-", "-x", "9-x", "9*-x", "((((1<2", "9-2)", "1<2<3", "s+-(", "(((((1"}) {
             Check.due("a wrong one", Check.rule(x, wrong) < 0, true);
             Check.due("a right one behind " + wrong, Check.rule(x, "((((2))))+(1<2)"), 0);
             Check.due("TURNS", x.road(0, 6), 3);

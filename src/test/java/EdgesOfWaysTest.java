@@ -94,6 +94,13 @@ public final class EdgesOfWaysTest {
         x.pass(2);
         Check.due("one waits at b for 61", x.soonest(0, 2), 60);
         Check.row("one waits at b for 61", x, 0, 0, 59, 1);
+        for (int now = 0; now < 61; now++) {
+            RoadsWithTides y = two("1-58", "60*58/30");
+            y.pass(now);
+            int wait = now == 0 ? 0 : 60 - now;
+            Check.due("one waits for 60 at " + now, y.soonest(0, 1), wait + 1);
+            Check.row("one waits for 60 at " + now, y, wait, 0);
+        }
     }
 
     private static void waysWithoutLoad() {
