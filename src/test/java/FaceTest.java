@@ -1,3 +1,4 @@
+import java.lang.reflect.Field;
 import java.lang.reflect.Member;
 import java.lang.reflect.Method;
 import java.lang.reflect.Modifier;
@@ -57,9 +58,43 @@ public final class FaceTest {
                 Check.due(method.getName() + " has at most seven parameters", method.getParameterCount() <= 7, true);
             }
         }
+        fewFields(face);
+        for (Class<?> inside : face.getDeclaredClasses()) {
+            fewFields(inside);
+        }
         Check.due("at most twelve classes", face.getDeclaredClasses().length < 12, true);
         readSource();
         Check.finish();
+    }
+
+    private static void fewFields(Class<?> one) {
+        int many = 0;
+        for (Field field : one.getDeclaredFields()) {
+            boolean isConstant = Modifier.isStatic(field.getModifiers());
+            many += isConstant ? 0 : 1;
+            Check.due(one.getName() + "." + field.getName() + " is no static state",
+                    isConstant && !Modifier.isFinal(field.getModifiers()), false);
+        }
+        Check.due(one.getName() + " has at most twenty fields", many <= 20, true);
+    }
+
+    /** From a line that opens a method to the one that closes it, by how far these are put in. */
+    private static void shortMethods(String[] lines) {
+        int methods = 0;
+        for (int i = 0; i < lines.length; i++) {
+            int margin = lines[i].startsWith("        ") ? 8 : 4;
+            boolean opens = lines[i].matches(" {" + margin + "}[A-Za-z].*\\) (throws \\w+ )?\\{");
+            if (!opens) {
+                continue;
+            }
+            int end = i;
+            while (end < lines.length && !lines[end].equals(" ".repeat(margin) + "}")) {
+                end++;
+            }
+            methods++;
+            Check.due("lines of the method at line " + (i + 1) + " are at most 60", end - i < 60, true);
+        }
+        Check.due("methods were looked at", methods > 100, true);
     }
 
     private static String told(Method method) {
@@ -79,6 +114,7 @@ public final class FaceTest {
         for (String word : NOT_IN_THE_LANGUAGE) {
             Check.due("the source has " + word, source.contains(word), false);
         }
+        shortMethods(source.split("\n"));
         for (String line : source.split("\n")) {
             if (line.startsWith("import ")) {
                 Check.due(line, line.equals("import java.util.Arrays;")
